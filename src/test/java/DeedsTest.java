@@ -9,6 +9,7 @@ public final class DeedsTest {
         feed();
         wakeAndLull();
         fullIsLast();
+        the40th();
         undo();
         keepAndOn();
         check.end();
@@ -98,6 +99,18 @@ public final class DeedsTest {
         check.due("no finding", x.finding(), 0);
     }
 
+    private static void the40th() {
+        DreamTrain x = Check.lineOf("n0500s001 s000");
+        Check.pass(x, 39);
+        check.due("feed as the 40th deed", x.feed(0, 3), 1);
+        check.due("undo(39)", x.undo(39), 1);
+        check.due("wake as the 40th deed", x.wake(0), 0);
+        check.due("undo(38)", x.undo(38), 2);
+        x.wake(0);
+        check.due("lull as the 40th deed", x.lull(0), 0);
+        check.due("40 deeds", x.count(2), 40);
+    }
+
     private static void undo() {
         DreamTrain x = new DreamTrain();
         check.due("undo(0) without a line", x.undo(0), 0);
@@ -153,11 +166,24 @@ public final class DeedsTest {
         check.finds("on(0)", x, x.on(0), NOTHING);
         check.due("on(2)", x.on(2), 3);
         check.due("as it was kept", x.digest(), kept);
+        x.line(0);
+        x.feed(0, 7);
+        x.minute();
+        x.feed(0, 8);
+        x.keep(2);
         x.undo(0);
-        check.due("its deeds can be undone", x.count(5), 3);
+        x.minute();
+        x.wake(1);
+        x.lull(1);
+        x.on(2);
+        check.due("a kept line's deeds can be undone", x.undo(0), 3);
+        check.tells("the supper is the first one", x, x.sleeper(0, 2), 0);
+        check.due("the minute is the first one", x.count(3), 0);
+        check.due("all are asleep", x.count(5), 3);
         check.due("keep(0)", x.keep(0), 0);
         check.due("two kept", x.count(10), 2);
         check.due("on(2) again", x.on(2), 3);
+        check.due("minute as kept in 2", x.count(3), 1);
         check.due("keep(0) over the other", x.keep(0), 3);
         check.due("still two kept", x.count(10), 2);
         Check.pass(x, 4);

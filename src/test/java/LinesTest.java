@@ -116,6 +116,12 @@ public final class LinesTest {
         fault("n:560", 1);
         fault("n0560s05:", 8);
         fault("n0560s05/", 8);
+        fault(" ".repeat(60), 60);
+        fault(" ".repeat(59) + "n", 60);
+        fault(" ".repeat(57) + "n05", 60);
+        fault(" ".repeat(55) + "n0560", 60);
+        fault("n0560" + " ".repeat(52) + "s05", 60);
+        fault("n0560" + " ".repeat(51) + "s059", DreamTrain.NONE);
     }
 
     private static void faultRefused() {
@@ -141,20 +147,24 @@ public final class LinesTest {
         x.wake(1);
         x.feed(0, 4);
         Check.pass(x, 3);
+        x.keep(0);
         x.keep(1);
+        x.keep(2);
         Check.write(x, 0, "n2060s010c023c065x");
         check.due("line of a fault", x.line(0), DreamTrain.STATE);
         check.due("it changes no sleepers", x.count(0), 2);
         check.due("it changes no last place", x.count(1), 7);
         check.due("it changes no deeds", x.count(2), 5);
         check.due("it changes no minute", x.count(3), 3);
-        check.due("it changes no kept line", x.count(10), 1);
+        check.due("it changes no kept line", x.count(10), 3);
         check.due("line(2) anew", x.line(2), 2);
         int[] anew = {2, 7, 0, 0, 0, 3, 3, 15, 0, 2, 0, 1};
         for (int what = 0; what < anew.length; what++) {
             check.due("anew count(" + what + ")", x.count(what), anew[what]);
         }
-        check.finds("a kept line is gone", x, x.on(1), NOTHING);
+        for (int k = 0; k < 3; k++) {
+            check.finds("kept line " + k + " is gone", x, x.on(k), NOTHING);
+        }
         check.tells("the supper is anew", x, x.sleeper(0, 2), 0);
         check.due("undo(1) anew", x.undo(1), DreamTrain.BAD);
         x.text(2, 0);

@@ -9,7 +9,7 @@ import java.util.Random;
 
 /** Compares every call of seeded random runs with PlainTrain. */
 public final class ModelTest {
-    private static final int RUNS = 3000, STEPS = 70, TEXTS = 4000;
+    private static final int RUNS = 3000, STEPS = 70, TEXTS = 4000, CROWDS = 1500;
     private static final int[] WILD = {-1, 0, 1, 7, 21, 41, 61, 100, Integer.MAX_VALUE, Integer.MIN_VALUE, -40, 1 << 30};
     private static final Map<String, int[][]> RANGES = new LinkedHashMap<>();
 
@@ -72,7 +72,29 @@ public final class ModelTest {
             test.run(run);
         }
         test.faults();
+        test.crowds();
         test.check.end();
+    }
+
+    /** Lines with many in few places, where feasts of two and beds alike are not rare. */
+    private void crowds() throws ReflectiveOperationException {
+        for (int crowd = 0; crowd < CROWDS; crowd++) {
+            x = new DreamTrain();
+            plain = new PlainTrain();
+            StringBuilder words = new StringBuilder(String.format("n%02d40", random.nextInt(5, 21)));
+            for (int i = 0; i < 6; i++) {
+                words.append("scbigl".charAt(random.nextInt(6)));
+                words.append(String.format("%02d%d", random.nextInt(3), random.nextInt(10)));
+            }
+            write(0, words.toString());
+            call("line", 0);
+            for (int place = 0; place < 3; place++) {
+                call("feast", place, place + random.nextInt(12));
+                call("asked");
+            }
+            call("bed", random.nextInt(6));
+            call("asked");
+        }
     }
 
     private void faults() throws ReflectiveOperationException {

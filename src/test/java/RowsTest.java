@@ -100,6 +100,8 @@ public final class RowsTest {
         row(x, 0, 1, 1, 2, 3, 4);
         check.due("copy backward in itself", x.copy(0, 1, 0, 0, 4), 1);
         row(x, 0, 1, 2, 3, 4, 4);
+        check.due("copy of all", x.copy(1, 0, 1, 0, 3), 1);
+        row(x, 1, 9, 3, 4);
         check.due("copy of none", x.copy(0, 5, 1, 3, 0), 1);
         row(x, 1, 9, 3, 4);
         check.due("copy(-1, ..)", x.copy(-1, 0, 0, 0, -1), DreamTrain.BAD);

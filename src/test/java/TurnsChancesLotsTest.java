@@ -78,11 +78,17 @@ public final class TurnsChancesLotsTest {
         // Both asleep 2, only the first 2, only the second 3, none 4.
         part("mid(4, 6)", x, x.mid(4, 6), 11, 4);
         part("mid(30, 6)", x, x.mid(30, 6), 5, 1);
+        part("mid(4, 12)", x, x.mid(4, 12), 4, 1);
+        part("mid(4, 11)", x, x.mid(4, 11), 4 * 121 + (2 + 3) * 11 + 2, 144);
         int[][] bad = {{-1, 0}, {31, 0}, {0, -1}, {0, 13}};
         for (int[] b : bad) {
             check.due("mid(" + b[0] + ", " + b[1] + ")", x.mid(b[0], b[1]), DreamTrain.BAD);
         }
-        check.due("refused calls tell nothing", x.upper(), 5);
+        check.due("refused calls tell nothing", x.upper(), 541);
+        x = Check.lineOf("n2000s000");
+        part("mid(22, 0)", x, x.mid(22, 0), 20, 1);
+        part("odds(22, 20, 0)", x, x.odds(22, 20, 0), 1, 1);
+        part("odds(21, 20, 0)", x, x.odds(21, 20, 0), 0, 1);
     }
 
     /** The lots of seed 1: 48271, 182605794, 1291394886, 1914720637, 2078669041, 407355683, .. */

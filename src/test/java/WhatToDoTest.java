@@ -85,6 +85,8 @@ public final class WhatToDoTest {
         check.tells("one lies where one lay", x, x.sleeper(0, 1), 1);
         check.due("bed(-1)", x.bed(-1), DreamTrain.BAD);
         check.due("bed(2)", x.bed(2), DreamTrain.BAD);
+        x = Check.lineOf("n0600 s060 b037 s022 b039 i008 b036");
+        check.answers("17 minutes in places 3 and 6: the first", x, x.bed(0), 3, 17);
         x = Check.lineOf("n2000c000 c004 s050");
         check.answers("where it does not come: the first", x, x.bed(2), 0, 40);
     }
