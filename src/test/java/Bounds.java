@@ -35,6 +35,8 @@ abstract class Bounds {
                 runOne(method);
                 many++;
                 promises.add(name.group(1) == null ? 0 : Integer.parseInt(name.group(1)));
+            } else if (method.getName().startsWith("promise") || method.getName().startsWith("terms")) {
+                throw new IllegalStateException(method.getName() + " is not named as tests are");
             }
         }
         test = tests.getName();

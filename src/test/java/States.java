@@ -49,7 +49,7 @@ final class States {
         x.lull(2);
         x.wake(4);
         x.minute();
-        x.odds(9, 6, 5);
+        x.odds(6, 5, 5);
         x.at(0, 1);
         return x;
     }
