@@ -34,14 +34,6 @@ public final class BoundsOfAsidesTest extends Bounds {
         dueAndTold(want, x.asked(), inMinute99(), name, args);
     }
 
-    private static DreamTrain allAwake(String words) {
-        DreamTrain x = Check.lineOf(words);
-        for (int i = 0; i < x.count(0); i++) {
-            x.wake(i);
-        }
-        return x;
-    }
-
     // ---- promise 22
 
     static void promise22NIs0To60() {
@@ -67,11 +59,11 @@ public final class BoundsOfAsidesTest extends Bounds {
             dueAndTold(w[1], w[2], x, "train", w[0]);
         }
         dueAndTold(0, 60, Check.lineOf(HELD), "train", 60);
-        dueAndTold(20, 40, allAwake(HELD), "train", 60);
+        dueAndTold(20, 40, States.allAwake(HELD), "train", 60);
     }
 
     static void promise22InTheLastPlaceItStands() {
-        DreamTrain x = allAwake("n0500s000");
+        DreamTrain x = States.allAwake("n0500s000");
         dueAndTold(4, 0, x, "train", 4);
         dueAndTold(5, 0, x, "train", 5);
         dueAndTold(5, 1, x, "train", 6);
@@ -82,6 +74,17 @@ public final class BoundsOfAsidesTest extends Bounds {
         Check.pass(x, 40);
         dueAndTold(0, 60, x, "train", 60);
         due(40, x, "count", 3);
+    }
+
+    static void promise22FromAPlaceFartherOn() {
+        DreamTrain x = Check.lineOf("n0500s000s041");
+        Check.pass(x, 5);
+        due(3, x, "count", 4);
+        dueAndTold(3, 0, x, "train", 0);
+        dueAndTold(4, 0, x, "train", 1);
+        dueAndTold(4, 1, x, "train", 2);
+        dueAndTold(5, 1, x, "train", 3);
+        dueAndTold(5, 58, x, "train", 60);
     }
 
     static void promise22MinutesBeyond99() {
@@ -98,7 +101,7 @@ public final class BoundsOfAsidesTest extends Bounds {
     }
 
     static void promise23Behind0Minutes() {
-        DreamTrain x = allAwake("n0500s000");
+        DreamTrain x = States.allAwake("n0500s000");
         Check.pass(x, 4);
         dueAndTold(1, 5, x, "comes");
         Check.pass(x, 1);
@@ -173,7 +176,7 @@ public final class BoundsOfAsidesTest extends Bounds {
     }
 
     static void promise24InTheLastPlaceThoughAwake() {
-        due(55, allAwake("n0500s050"), "stood", 0);
+        due(55, States.allAwake("n0500s050"), "stood", 0);
     }
 
     static void promise24TellsNothingByAsked() {
@@ -314,6 +317,9 @@ public final class BoundsOfAsidesTest extends Bounds {
         dueAndTold(1, 1, x, "feast", 0, 5);
         dueAndTold(1, 1, x, "feast", 0, 40);
         dueAndTold(1, 10, Check.lineOf("n2000i000s192"), "feast", 19, 19);
+        x = Check.lineOf("n0500s003");
+        x.sleeper(0, 2);
+        dueAndTold(1, 0, x, "feast", 0, 0);
     }
 
     static void promise26ByTwo() {
@@ -341,6 +347,14 @@ public final class BoundsOfAsidesTest extends Bounds {
         dueAndTold(1, 4, Check.lineOf("n0500s000s000"), "feast", 0, 3);
     }
 
+    /** Each has to hold it for two minutes, which each does by one supper (and that and six) alone. */
+    static void promise26ByThreeIsNone() {
+        dueAndTold(0, 0, Check.lineOf("n2000s033s040s053"), "feast", 5, 10);
+        dueAndTold(1, 23, Check.lineOf("n2000s033s040s050"), "feast", 5, 10);
+        dueAndTold(2, 10023, Check.lineOf("n2000s033s041s050"), "feast", 5, 10);
+        refused(NONE, States.line("n2000s030s041s050"), "feast", 5, 10);
+    }
+
     static void promise26OfThoseWhoAreAsleep() {
         DreamTrain x = Check.lineOf("n0500s000s000s000");
         x.wake(0);
@@ -354,7 +368,7 @@ public final class BoundsOfAsidesTest extends Bounds {
     static void promise26InTheLastPlaceByNoSupper() {
         refused(NONE, States.line("n0500s050"), "feast", 5, 4);
         dueAndTold(0, 0, Check.lineOf("n0500s050"), "feast", 5, 5);
-        dueAndTold(0, 0, allAwake("n0500s050"), "feast", 5, 40);
+        dueAndTold(0, 0, States.allAwake("n0500s050"), "feast", 5, 40);
         refused(NONE, States.line("n2000s000"), "feast", 20, 19);
         dueAndTold(1, 2, Check.lineOf("n2000s000"), "feast", 20, 20);
     }
@@ -410,7 +424,7 @@ public final class BoundsOfAsidesTest extends Bounds {
     }
 
     static void promise27OneWhoIsAwake() {
-        dueAndTold(5, 35, allAwake("n0500s000"), "bed", 0);
+        dueAndTold(5, 35, States.allAwake("n0500s000"), "bed", 0);
         DreamTrain x = Check.lineOf(HELD + "c000");
         x.wake(2);
         dueAndTold(0, 40, x, "bed", 2);
@@ -630,11 +644,29 @@ public final class BoundsOfAsidesTest extends Bounds {
     }
 
     static void promise30AllAlikeTheFirst() {
-        dueAndTold(1, 6, allAwake("n2000s000"), "look", 0);
+        dueAndTold(1, 6, States.allAwake("n2000s000"), "look", 0);
         dueAndTold(1, 6, Check.lineOf("n0500s050"), "look", 0);
         DreamTrain x = Check.lineOf("n0500s000");
         Check.pass(x, 40);
         dueAndTold(1, 6, x, "look", 0);
+    }
+
+    /** Nothing is left over by one call that another one could see. */
+    static void promise30AndAllAsidesWhateverWasAskedAhead() {
+        String[] names = {"train", "comes", "stood", "intime", "feast", "bed", "account", "kinds", "look", "duel", "odds", "mid"};
+        int[][] args = {{60}, {}, {3}, {}, {7, 20}, {1}, {0}, {2, 0}, {4}, {3}, {30, 9, 5}, {29, 7}};
+        Supplier<DreamTrain> state = States.seen(States.WORDS, 1, 1, 2);
+        for (int first = 0; first < names.length; first++) {
+            for (int second = 0; second < names.length; second++) {
+                DreamTrain alone = state.get();
+                DreamTrain x = state.get();
+                answer(x, names[first], args[first]);
+                x.at(0, 0);
+                alone.at(0, 0);
+                due(answer(alone, names[second], args[second]), x, names[second], args[second]);
+                same(names[second] + " behind " + names[first] + ", then asked()", x.asked(), alone.asked());
+            }
+        }
     }
 
     static void promise30WhicheverKindOneIs() {

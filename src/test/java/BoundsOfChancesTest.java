@@ -10,14 +10,6 @@ public final class BoundsOfChancesTest extends Bounds {
         run(BoundsOfChancesTest.class, 31, 34);
     }
 
-    private static DreamTrain allAwake(String words) {
-        DreamTrain x = Check.lineOf(words);
-        for (int i = 0; i < x.count(0); i++) {
-            x.wake(i);
-        }
-        return x;
-    }
-
     private static Supplier<DreamTrain> busyWith(int deeds) {
         return () -> States.busyWith(deeds);
     }
@@ -54,8 +46,8 @@ public final class BoundsOfChancesTest extends Bounds {
     }
 
     static void promise31NobodyIsAsleepToWake() {
-        duels(allAwake("n2000s010"), 20, 20, 19, 20, 19);
-        duels(allAwake(HELD), 20, 20, 16, 20, 16);
+        duels(States.allAwake("n2000s010"), 20, 20, 19, 20, 19);
+        duels(States.allAwake(HELD), 20, 20, 16, 20, 16);
     }
 
     static void promise31NobodyIsAwakeToLull() {
@@ -300,6 +292,19 @@ public final class BoundsOfChancesTest extends Bounds {
         tells(2, x, "sleeper", 2, 2);
     }
 
+    /** Seed 7: 337897, which leaves over 1 by 4; by 8, cut, 42237; by 64, cut, 5279. */
+    static void promise34ASupperByLots() {
+        DreamTrain x = Check.lineOf("n0500s050s051s053s054");
+        due(0, x, "lots", 1, 7);
+        int[] suppers = {0, 9, 3, 4};
+        for (int i = 0; i < 4; i++) {
+            tells(suppers[i], x, "sleeper", i, 2);
+        }
+        due(15, x, "count", 5);
+        due(1, x, "undo", 0);
+        tells(1, x, "sleeper", 1, 2);
+    }
+
     static void promise34NoSleepers() {
         refused(STATE, States::fresh, "lots", 1, 1);
         refused(STATE, States::laid, "lots", 20, LAST_SEED);
@@ -341,6 +346,8 @@ public final class BoundsOfChancesTest extends Bounds {
         due(99, x, "count", 3);
         due(6, x, "count", 2);
         due(5, x, "undo", 1);
+        due(1, x, "count", 5);
+        tells(0, x, "sleeper", 0, 2);
         due(99, x, "count", 3);
         due(1, x, "count", 4);
         due(1, x, "undo", 0);

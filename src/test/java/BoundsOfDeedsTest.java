@@ -401,6 +401,42 @@ public final class BoundsOfDeedsTest extends Bounds {
         due(0, x, "count", 3);
     }
 
+    /** Other deeds in the places of those that are kept: these are undone by what was kept. */
+    static void promise21ItsDeedsAreUndoneThoughOthersWereDone() {
+        DreamTrain x = Check.lineOf("n0500s000c041");
+        for (int d = 0; d < 4; d++) {
+            deed(x, d);
+        }
+        x.keep(1);
+        x.undo(0);
+        for (int d : new int[] {4, 3, 1, 0}) {
+            deed(x, d);
+        }
+        due(4, x, "on", 1);
+        for (int n = 3; n >= 0; n--) {
+            due(1, x, "undo", n);
+            DreamTrain twin = Check.lineOf("n0500s000c041");
+            for (int d = 0; d < n; d++) {
+                deed(twin, d);
+            }
+            for (int what = 0; what <= 7; what++) {
+                due(twin.count(what), x, "count", what);
+            }
+            twin.sleeper(1, 2);
+            tells(twin.asked(), x, "sleeper", 1, 2);
+        }
+    }
+
+    private static void deed(DreamTrain x, int d) {
+        switch (d) {
+            case 0 -> x.minute();
+            case 1 -> x.feed(1, 7);
+            case 2 -> x.wake(0);
+            case 3 -> x.feed(0, 5);
+            default -> x.wake(1);
+        }
+    }
+
     static void promise21WithItsDeedsFullOrNot() {
         DreamTrain x = States.full();
         x.keep(1);

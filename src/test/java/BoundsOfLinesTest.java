@@ -172,6 +172,14 @@ public final class BoundsOfLinesTest extends Bounds {
         fault(NONE, words + "l200");
     }
 
+    static void promise10TheEndOfATextOf60ComesTooEarly() {
+        String words = "n2060s059";
+        for (int size = 1; size < words.length(); size++) {
+            fault(60, " ".repeat(60 - size) + words.substring(0, size));
+        }
+        fault(NONE, " ".repeat(60 - words.length()) + words);
+    }
+
     static void promise10BlanksAlone() {
         fault(0, "");
         fault(1, " ");
@@ -376,8 +384,13 @@ public final class BoundsOfLinesTest extends Bounds {
             tells(9 - i, x, "sleeper", i, 2);
             tells(1, x, "sleeper", i, 3);
         }
+        due(63, x, "count", 5);
         due(1, x, "line", 0);
-        bad(States.line("n0500s000"), "sleeper", 1, 0);
+        due(1, x, "count", 5);
+        due(1, x, "count", 0);
+        due(5, x, "count", 1);
+        due(0, x, "count", 7);
+        due(BAD, x, "sleeper", 1, 0);
     }
 
     static void promise11AnewIsMinute0Place0AllAsleepNoDeeds() {

@@ -1,5 +1,3 @@
-import java.lang.reflect.InvocationTargetException;
-import java.lang.reflect.Method;
 import java.util.ArrayList;
 import java.util.Arrays;
 import java.util.LinkedHashMap;
@@ -66,7 +64,7 @@ public final class ModelTest {
     private DreamTrain x;
     private PlainTrain plain;
 
-    public static void main(String[] args) throws ReflectiveOperationException {
+    public static void main(String[] args) {
         ModelTest test = new ModelTest();
         for (int run = 0; run < RUNS; run++) {
             test.run(run);
@@ -77,7 +75,7 @@ public final class ModelTest {
     }
 
     /** Lines with many in few places, where feasts of two and beds alike are not rare. */
-    private void crowds() throws ReflectiveOperationException {
+    private void crowds() {
         for (int crowd = 0; crowd < CROWDS; crowd++) {
             x = new DreamTrain();
             plain = new PlainTrain();
@@ -97,7 +95,7 @@ public final class ModelTest {
         }
     }
 
-    private void faults() throws ReflectiveOperationException {
+    private void faults() {
         x = new DreamTrain();
         plain = new PlainTrain();
         for (int text = 0; text < TEXTS; text++) {
@@ -111,7 +109,7 @@ public final class ModelTest {
         }
     }
 
-    private void run(int run) throws ReflectiveOperationException {
+    private void run(int run) {
         x = new DreamTrain();
         plain = new PlainTrain();
         if (run % 20 != 0) {
@@ -127,7 +125,7 @@ public final class ModelTest {
         call("digest");
     }
 
-    private void step() throws ReflectiveOperationException {
+    private void step() {
         String name = names.get(random.nextInt(names.size()));
         if (name.equals("text") && random.nextInt(3) > 0) {
             name = "minute";
@@ -153,26 +151,14 @@ public final class ModelTest {
         check.due(call + ", then finding()", x.finding(), plain.finding());
     }
 
-    private void call(String name, int... args) throws ReflectiveOperationException {
-        long got = answer(x, name, args);
-        long want = answer(plain, name, args);
+    private void call(String name, int... args) {
+        long got = Bounds.answer(x, name, args);
+        long want = Bounds.answer(plain, name, args);
         check.due(name + Arrays.toString(args), got, want);
     }
 
-    private static long answer(Object on, String name, int... args) throws ReflectiveOperationException {
-        Class<?>[] types = new Class<?>[args.length];
-        Arrays.fill(types, int.class);
-        Object[] boxed = Arrays.stream(args).boxed().toArray();
-        Method method = on.getClass().getDeclaredMethod(name, types);
-        try {
-            return ((Number) method.invoke(on, boxed)).longValue();
-        } catch (InvocationTargetException thrown) {
-            throw new IllegalStateException(name + Arrays.toString(args) + " threw", thrown.getCause());
-        }
-    }
-
     /** Lays a row of places that would be seen, or nearly so, and asks about it. */
-    private void see() throws ReflectiveOperationException {
+    private void see() {
         int set = random.nextInt(64);
         int[] places = plain.placesToCome(set, random.nextInt(1, 8));
         if (random.nextInt(6) == 0) {
@@ -187,7 +173,7 @@ public final class ModelTest {
         call("kinds", random.nextInt(plain.count(0)), r);
     }
 
-    private void write(int t, String words) throws ReflectiveOperationException {
+    private void write(int t, String words) {
         call("text", t, words.length());
         for (int i = 0; i < words.length(); i++) {
             if (words.charAt(i) != ' ') {

@@ -72,6 +72,15 @@ final class States {
         return () -> Check.lineOf(words);
     }
 
+    /** A line laid by words, of which everybody is woken. */
+    static DreamTrain allAwake(String words) {
+        DreamTrain x = Check.lineOf(words);
+        for (int i = 0; i < x.count(0); i++) {
+            x.wake(i);
+        }
+        return x;
+    }
+
     /** A line laid by words, with a row 0. */
     static Supplier<DreamTrain> seen(String words, int... places) {
         return () -> {
