@@ -620,6 +620,18 @@ public final class BoundsOfAsidesTest extends Bounds {
         same("all places are told", Arrays.stream(places).max().getAsInt() > 5 ? 1 : 0, 1);
     }
 
+    static void promise29FromNowOn() {
+        DreamTrain x = States.seen("n0500s000s050", 0, 1).get();
+        due(0, x, "kinds", 0, 0);
+        Check.pass(x, 1);
+        due(1 | 4 | 32, x, "kinds", 0, 0);
+        Check.pass(x, 1);
+        due(0, x, "kinds", 0, 0);
+        Check.fill(x, 0, 1, 2);
+        due(63, x, "kinds", 1, 0);
+        due(63 & ~(2 | 16), x, "kinds", 0, 0);
+    }
+
     // ---- promise 30
 
     static void promise30SleepersOfALine() {
@@ -674,5 +686,26 @@ public final class BoundsOfAsidesTest extends Bounds {
             dueAndTold(20, 4, Check.lineOf("n2000" + letter + "195"), "look", 0);
             dueAndTold(3, 3, Check.lineOf("n0500" + letter + "000"), "look", 0);
         }
+    }
+
+    static void promise30FromNowOn() {
+        DreamTrain x = Check.lineOf("n2000s195");
+        for (int m = 0; m < 19; m++) {
+            dueAndTold(20 - m, 4, x, "look", 0);
+            x.minute();
+        }
+        dueAndTold(1, 4, x, "look", 0);
+    }
+
+    /** All kinds dream alike in minutes 39 and 99, and from these on. */
+    static void promise30MinutesBeyond99() {
+        int apart = 0;
+        for (int i = 0; i <= 5; i++) {
+            DreamTrain x = States.inMinute(inMinute9(), 39);
+            long want = answer(x, "look", i);
+            dueAndTold(want, x.asked(), inMinute99(), "look", i);
+            apart += x.asked() < 6 ? 1 : 0;
+        }
+        same("kinds of some are told apart", apart > 0 ? 1 : 0, 1);
     }
 }

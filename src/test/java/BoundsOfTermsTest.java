@@ -116,6 +116,52 @@ public final class BoundsOfTermsTest extends Bounds {
         due(0b100101, x, "count", 6);
     }
 
+    // ---- asides
+
+    /** All that can be seen but what is told: by asked(), upper(), lower(), the first of a probe's looks. */
+    private static void doesNothingElse(Supplier<DreamTrain> state, String name, int... args) {
+        DreamTrain x = state.get();
+        DreamTrain twin = state.get();
+        same(words(name, args) + " is refused", answer(x, name, args) < 0 ? 1 : 0, 0);
+        due(twin.finding(), x, "finding");
+        long[] got = Probe.of(x);
+        long[] want = Probe.of(twin);
+        same(words(name, args) + ", then how much there is to see", got.length, want.length);
+        for (int i = 3; i < Math.min(got.length, want.length); i++) {
+            same(words(name, args) + ", then look " + i + " of Probe", got[i], want[i]);
+        }
+    }
+
+    static void termsAsidesDoNothingElse() {
+        Supplier<DreamTrain> state = () -> {
+            DreamTrain x = States.busy();
+            Check.fill(x, 0, 3, 3);
+            return x;
+        };
+        doesNothingElse(state, "train", 60);
+        doesNothingElse(state, "comes");
+        doesNothingElse(state, "intime");
+        doesNothingElse(state, "feast", 10, 40);
+        doesNothingElse(state, "account", 0);
+        for (int i = 0; i <= 5; i++) {
+            doesNothingElse(state, "stood", i);
+            doesNothingElse(state, "bed", i);
+            doesNothingElse(state, "kinds", i, 0);
+            doesNothingElse(state, "look", i);
+        }
+        for (int n = 0; n <= 4; n++) {
+            doesNothingElse(state, "duel", n);
+        }
+        doesNothingElse(state, "odds", 30, 10, 6);
+        doesNothingElse(state, "mid", 30, 6);
+    }
+
+    static void termsAsidesByOneOrTwoSuppersDoNothingElse() {
+        doesNothingElse(States.line("n0500s000s000"), "feast", 0, 3);
+        doesNothingElse(States.line("n0500s003s012"), "feast", 1, 3);
+        doesNothingElse(States.line("n0506s050s000s000"), "intime");
+    }
+
     // ---- the line, the train
 
     static void termsALineIsWithoutSleepersAtFirst() {

@@ -6,12 +6,14 @@ import java.lang.reflect.Modifier;
 import java.nio.file.Files;
 import java.nio.file.Path;
 import java.util.Arrays;
+import java.util.HashMap;
+import java.util.Map;
 import java.util.Set;
 import java.util.TreeSet;
 import java.util.regex.Matcher;
 import java.util.regex.Pattern;
 
-/** The public face of the document, and those rules of LANGUAGE.md that a look at the class can tell. */
+/** The public face, as it is written here and as the document's own text has it. */
 public final class FaceTest {
     private static final String[] FACE = {
         "int row(int int)", "int lay(int int int)", "int at(int int)", "int tear(int)", "int copy(int int int int int)",
@@ -23,18 +25,20 @@ public final class FaceTest {
         "int lots(int int)", "int asked()", "long upper()", "long lower()", "int count(int)", "int finding()",
         "int findings(int)", "long digest()",
     };
-    private static final Set<String> CONSTANTS = Set.of("BAD", "FULL", "FINDING", "STATE", "SPENT", "NONE");
-    private static final String[] BARRED = {
-        "throw", "throws", "try", "catch", "synchronized", "assert", "->", "::", "import static", "Exact", "hashCode",
-        "toString", "System.out", "Random", "currentTimeMillis", "nanoTime", "Thread",
-    };
+    private static final Map<String, Integer> CONSTANTS =
+            Map.of("BAD", -1, "FULL", -2, "FINDING", -3, "STATE", -4, "SPENT", -6, "NONE", -9);
+    private static final Path DOCUMENT = Path.of("../shared/DOC.md");
+    private static final Pattern FACE_IN_DOCUMENT = Pattern.compile("(?s)## The public face\\s+```java\n(.*?)```");
+    private static final Pattern METHOD_IN_DOCUMENT = Pattern.compile("public (int|long) (\\w+)\\(([^)]*)\\);");
+    private static final Pattern CONSTANT_IN_DOCUMENT = Pattern.compile("(\\w+) = (-?\\d+)");
     private static final Check check = new Check("FaceTest");
 
-    public static void main(String[] args) throws IOException {
+    public static void main(String[] args) throws IOException, ReflectiveOperationException {
         methods();
+        privateNames();
         members();
-        nestedClasses();
-        source();
+        constants();
+        document();
         check.end();
     }
 
@@ -44,22 +48,28 @@ public final class FaceTest {
 
     private static void methods() {
         Set<String> seen = new TreeSet<>();
-        Set<String> publicNames = new TreeSet<>();
         for (Method m : DreamTrain.class.getDeclaredMethods()) {
             if (Modifier.isPublic(m.getModifiers())) {
-                publicNames.add(m.getName());
                 String types = String.join(" ", Arrays.stream(m.getParameterTypes()).map(Class::getName).toList());
                 seen.add(m.getReturnType().getName() + " " + m.getName() + "(" + types + ")");
+                yes(m + " is an object's", !Modifier.isStatic(m.getModifiers()));
+                yes(m + " declares no exceptions", m.getExceptionTypes().length == 0);
             } else {
                 yes(m + " is private", Modifier.isPrivate(m.getModifiers()) || m.isSynthetic());
             }
         }
         yes("the public methods are " + seen, seen.equals(new TreeSet<>(Arrays.asList(FACE))));
+    }
+
+    private static void privateNames() {
+        Set<String> publicNames = new TreeSet<>();
+        for (String method : FACE) {
+            publicNames.add(method.substring(method.indexOf(' ') + 1, method.indexOf('(')));
+        }
         for (Method m : DreamTrain.class.getDeclaredMethods()) {
             if (!Modifier.isPublic(m.getModifiers())) {
                 yes(m + " bears no public method's name", !publicNames.contains(m.getName()));
             }
-            yes(m + " takes seven at most", m.getParameterCount() <= 7);
         }
         for (Class<?> nested : DreamTrain.class.getDeclaredClasses()) {
             for (Method m : nested.getDeclaredMethods()) {
@@ -71,42 +81,44 @@ public final class FaceTest {
     private static void members() {
         int modifiers = DreamTrain.class.getModifiers();
         yes("the class is public and final", Modifier.isPublic(modifiers) && Modifier.isFinal(modifiers));
-        int state = 0;
         for (Field f : DreamTrain.class.getDeclaredFields()) {
-            boolean isConstant = CONSTANTS.contains(f.getName());
+            boolean isConstant = CONSTANTS.containsKey(f.getName());
             yes(f + " is as it should be", isConstant == Modifier.isPublic(f.getModifiers()));
             yes(f + " is public or private", isConstant || Modifier.isPrivate(f.getModifiers()));
-            yes(f + " is final, if static", !Modifier.isStatic(f.getModifiers()) || Modifier.isFinal(f.getModifiers()));
-            state += Modifier.isStatic(f.getModifiers()) ? 0 : 1;
         }
-        yes("some twenty fields", state <= 20);
         Constructor<?>[] constructors = DreamTrain.class.getDeclaredConstructors();
         yes("one public constructor without parameters", constructors.length == 1
                 && Modifier.isPublic(constructors[0].getModifiers()) && constructors[0].getParameterCount() == 0);
     }
 
-    private static void nestedClasses() {
-        Class<?>[] nested = DreamTrain.class.getDeclaredClasses();
-        yes("twelve classes at most", nested.length < 12);
-        for (Class<?> c : nested) {
-            int modifiers = c.getModifiers();
-            yes(c + " is static", Modifier.isStatic(modifiers));
-            yes(c + " is not public", !Modifier.isPublic(modifiers) && !Modifier.isProtected(modifiers));
+    private static void constants() throws ReflectiveOperationException {
+        for (String name : CONSTANTS.keySet()) {
+            Field f = DreamTrain.class.getDeclaredField(name);
+            yes(name + " is an int", f.getType() == int.class);
+            yes(name + " is static and final", Modifier.isStatic(f.getModifiers()) && Modifier.isFinal(f.getModifiers()));
+            check.due(name, f.getInt(null), CONSTANTS.get(name));
         }
     }
 
-    private static void source() throws IOException {
-        String source = Files.readString(Path.of("src/main/java/DreamTrain.java"));
-        String code = source.replaceAll("(?s)/\\*.*?\\*/", "").replaceAll("//[^\\n]*", "");
-        for (String word : BARRED) {
-            String pattern = Character.isLetter(word.charAt(0)) ? "\\b" + Pattern.quote(word) + "\\b" : Pattern.quote(word);
-            yes("no " + word, !Pattern.compile(pattern).matcher(code).find());
+    private static void document() throws IOException {
+        if (!Files.exists(DOCUMENT)) {
+            System.out.println("FaceTest: there is no " + DOCUMENT + " to compare with");
+            return;
         }
-        yes("no package line", !Pattern.compile("(?m)^\\s*package\\b").matcher(code).find());
-        Matcher imports = Pattern.compile("(?m)^import ([^;]*);").matcher(code);
-        while (imports.find()) {
-            yes("import " + imports.group(1), imports.group(1).equals("java.util.Arrays"));
+        Matcher face = FACE_IN_DOCUMENT.matcher(Files.readString(DOCUMENT));
+        yes("the document has a public face", face.find());
+        Set<String> methods = new TreeSet<>();
+        Matcher method = METHOD_IN_DOCUMENT.matcher(face.group(1));
+        while (method.find()) {
+            String types = method.group(3).replaceAll("(\\w+) \\w+,?", "$1");
+            methods.add(method.group(1) + " " + method.group(2) + "(" + types + ")");
         }
-        yes("plain signs alone", source.chars().allMatch(c -> c == '\n' || c >= ' ' && c < 127));
+        yes("the document's methods are " + methods, methods.equals(new TreeSet<>(Arrays.asList(FACE))));
+        Map<String, Integer> constants = new HashMap<>();
+        Matcher constant = CONSTANT_IN_DOCUMENT.matcher(face.group(1));
+        while (constant.find()) {
+            constants.put(constant.group(1), Integer.parseInt(constant.group(2)));
+        }
+        yes("the document's constants are " + constants, constants.equals(CONSTANTS));
     }
 }

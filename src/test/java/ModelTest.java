@@ -9,7 +9,8 @@ import java.util.Random;
 public final class ModelTest {
     private static final int RUNS = 3000, STEPS = 70, TEXTS = 4000, CROWDS = 1500;
     private static final int[] WILD = {-1, 0, 1, 7, 21, 41, 61, 100, Integer.MAX_VALUE, Integer.MIN_VALUE, -40, 1 << 30};
-    private static final Map<String, int[][]> RANGES = new LinkedHashMap<>();
+    /** Of each call: the least and the greatest of each of its numbers that is mostly taken. */
+    static final Map<String, int[][]> RANGES = new LinkedHashMap<>();
 
     static {
         range("row", 0, 5, 0, 22);

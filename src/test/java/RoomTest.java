@@ -1,13 +1,24 @@
 import java.lang.management.ManagementFactory;
+import java.lang.reflect.Array;
+import java.lang.reflect.Field;
+import java.lang.reflect.Modifier;
+import java.util.ArrayDeque;
+import java.util.Collections;
+import java.util.Deque;
+import java.util.IdentityHashMap;
+import java.util.Set;
 
 /** No call may use up the room that all calls of a run share, and none may throw, whatever it is given. */
 public final class RoomTest {
     private static final int[] ANY = {Integer.MIN_VALUE, -1, 0, 1, 2, 3, 5, 6, 20, 21, 40, 41, 60, 61, 100, Integer.MAX_VALUE};
+    /** All objects of a run share this room; one that were made for every call of a run would still fit. */
+    private static final int ROOM_OBJECTS = 600_000, ROOM_FIELDS = 7_300_000, CALLS = 512;
     private static final String FULL_LINE = "n2060g000c014b020i031l045s050";
     private static final Check check = new Check("RoomTest");
 
-    public static void main(String[] args) {
+    public static void main(String[] args) throws IllegalAccessException {
         callsMakeNothing();
+        anObjectsRoom();
         anythingIsAnswered(new DreamTrain());
         DreamTrain x = Check.lineOf(FULL_LINE);
         anythingIsAnswered(x);
@@ -32,6 +43,45 @@ public final class RoomTest {
         long made = allocated() - before;
         // The measure itself may make a little; one object a call would be 60,000 bytes and more.
         check.due("calls make objects of " + made + " bytes", made < 10_000 ? 1 : 0, 1);
+    }
+
+    /** As nothing is made by calls, what an object holds at first is all that it ever takes. */
+    private static void anObjectsRoom() throws IllegalAccessException {
+        Set<Object> held = Collections.newSetFromMap(new IdentityHashMap<>());
+        Deque<Object> open = new ArrayDeque<>();
+        open.add(new DreamTrain());
+        int fields = 0;
+        while (!open.isEmpty()) {
+            Object one = open.remove();
+            if (held.add(one)) {
+                fields += one.getClass().isArray() ? elements(one, open) : fields(one, open);
+            }
+        }
+        check.due("an object holds " + held.size() + " objects", held.size() <= ROOM_OBJECTS / CALLS ? 1 : 0, 1);
+        check.due("an object holds " + fields + " fields", fields <= ROOM_FIELDS / CALLS ? 1 : 0, 1);
+    }
+
+    private static int elements(Object array, Deque<Object> open) {
+        if (!array.getClass().getComponentType().isPrimitive()) {
+            for (Object element : (Object[]) array) {
+                open.add(element);
+            }
+        }
+        return Array.getLength(array);
+    }
+
+    private static int fields(Object one, Deque<Object> open) throws IllegalAccessException {
+        int many = 0;
+        for (Field f : one.getClass().getDeclaredFields()) {
+            if (!Modifier.isStatic(f.getModifiers())) {
+                many++;
+                f.setAccessible(true);
+                if (!f.getType().isPrimitive()) {
+                    open.add(f.get(one));
+                }
+            }
+        }
+        return many;
     }
 
     private static void callAll(DreamTrain x) {
